@@ -134,12 +134,12 @@ public final class NumberWords {
     }
 
     public int raise(int d) {
-        // a d beyond the greatest NUMBER can't do, and the sums below would leave the ints
-        if (words.size == 0 || d == 0 || d > MOST_NUMBER || d < -MOST_NUMBER) {
+        if (words.size == 0 || d == 0) {
             return NONE;
         }
         draft.clear();
         for (int i = 0; i < words.size; i++) {
+            // a sum that leaves the ints comes out below 0, so it is no NUMBER either
             int raised = words.numbers[i] + d;
             if (!isNumber(raised)) {
                 return NONE;
@@ -343,7 +343,7 @@ public final class NumberWords {
     }
 
     public int arc(int state, int k, int what) {
-        if (!freshMachine().hasState(state) || k < NONE) {
+        if (!freshMachine().hasState(state)) {
             return NONE;
         }
         if (k == NONE) {
@@ -970,15 +970,10 @@ public final class NumberWords {
 
         private void findTwins(boolean lastOpen) {
             Arrays.fill(bucket, NONE);
-            // the last node of all ends the last word
-            int open = lastOpen ? nodes - 1 : NONE;
             for (int node = nodes - 1; node >= 0; node--) {
-                if (node == open) {
-                    twin[node] = node;
-                    open = parent[node];
-                } else {
-                    twin[node] = twinOf(node);
-                }
+                // the last node ends the last word: if it has no twin, no node on the way to it can have one
+                boolean isAlone = lastOpen && node == nodes - 1;
+                twin[node] = isAlone ? node : twinOf(node);
             }
         }
 
@@ -1005,7 +1000,7 @@ public final class NumberWords {
                 hash = hash * 31 + outputTo(next);
                 hash = hash * 31 + twin[next];
             }
-            return hash ^ hash >>> 10 ^ hash >>> 20;
+            return hash + (hash >>> 10) + (hash >>> 20);
         }
 
         private boolean areAlike(int a, int b) {
@@ -1013,13 +1008,12 @@ public final class NumberWords {
                 return false;
             }
             int end = a + span[a];
-            int y = b + 1;
             for (int x = a + 1; x < end; x += span[x]) {
+                // twins have as many nodes, so as long as all is alike what goes on from b stands as far behind it
+                int y = x - a + b;
                 if (letter[x] != letter[y] || outputTo(x) != outputTo(y) || twin[x] != twin[y]) {
                     return false;
                 }
-                // like spans: twins have as many nodes, so y stays within b as long as x does within a
-                y += span[y];
             }
             return true;
         }
@@ -1246,6 +1240,7 @@ public final class NumberWords {
 
         private final Tape tape;
         private final int[] ends = new int[MOST_NODES];
+        /** The arcs of a state: from here on till those of the state behind it (0 for the first state always). */
         private final int[] firstArc = new int[MOST_NODES + 1];
         private final int[] letters = new int[MOST_BYTES];
         private final int[] outputs = new int[MOST_BYTES];
@@ -1279,7 +1274,6 @@ public final class NumberWords {
 
         private void readState(int s) {
             int head = takeNumber(0, MOST_HEAD);
-            firstArc[s] = arcs;
             ends[s] = fault == 0 && head % 2 == 1 ? takeNumber(0, MOST_NUMBER) : NONE;
             int letter = 0;
             for (int i = 0; i < head / 2 && fault == 0; i++) {

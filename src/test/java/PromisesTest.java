@@ -81,6 +81,7 @@ public final class PromisesTest {
         pack();
         unpack();
         unpackFaults();
+        unpackOften();
         count();
         exam.close("PromisesTest");
     }
@@ -866,6 +867,39 @@ public final class PromisesTest {
         due(name + ": acts", x.count(8), 1);
         due(name + ": states", x.count(1), 6);
         words(name, x, "car=3 cat=5 do=2 dog=7");
+    }
+
+    /** Unpacking asks the same of the hundredth machine as of the first, and ends soon whatever the bytes tell. */
+    private static void unpackOften() {
+        NumberWords x = ofBytes(79);
+        for (int i = 0; i < 40; i++) {
+            due("pack again", x.pack(), 400);
+            due("unpack again", x.unpack(), 100);
+        }
+        ringOfManyArcs();
+    }
+
+    private static void ringOfManyArcs() {
+        int[] ring = new int[2 + 11 * 34];
+        ring[0] = 11;
+        int at = 2;
+        for (int s = 0; s < 11; s++) {
+            ring[at++] = 22;
+            for (int letter = 1; letter <= 11; letter++) {
+                ring[at++] = letter;
+                ring[at++] = 0;
+                ring[at++] = (s + 1) % 11;
+            }
+        }
+        unpackFault(ring.length, 4, ring);
+        // the same without a way back: ten to the tenth beginnings that no word has
+        for (int i = at - 33; i < at; i++) {
+            ring[i] = 0;
+        }
+        ring[at - 34] = 0;
+        unpackFault(at - 33, 4, Arrays.copyOf(ring, at - 33));
+        ring[at - 34] = 1;
+        unpackFault(at - 32, 4, Arrays.copyOf(ring, at - 32));
     }
 
     private static int[] changed(int at, int to) {
