@@ -5,12 +5,14 @@ public final class NumberWords {
 
     public static final int NONE = -1;
 
+    /** The document's other no: what is asked for is not there, or would not do. */
     private static final int REFUSED = -2;
     private static final int MOST_LETTERS = 10;
     private static final int MOST_WORDS = 100;
     private static final int MOST_NUMBER = 999999;
     private static final int MOST_NODES = MOST_WORDS * MOST_LETTERS + 1;
     private static final int MOST_BYTES = 400;
+    private static final int MOST_NUMBER_BYTES = 4;
     private static final int MOST_TEXT = 60;
     private static final int MOST_SIGNS = 12;
     private static final int MOST_ACTS = 12;
@@ -335,8 +337,8 @@ public final class NumberWords {
         int answer = NONE;
         if (tape.isLetters(MOST_BYTES)) {
             // more letters than a word has begin none
-            int node = tape.size > MOST_LETTERS ? NONE : freshMachine().nodeBehind(tape.spelled(0, tape.size));
-            answer = node == NONE ? REFUSED : machine.stateOf[node];
+            int found = tape.size > MOST_LETTERS ? NONE : freshMachine().stateBehind(tape.spelled(0, tape.size));
+            answer = found == NONE ? REFUSED : found;
         }
         tape.size = 0;
         return answer;
@@ -349,10 +351,10 @@ public final class NumberWords {
         if (k == NONE) {
             return machine.arcsFrom(state);
         }
-        int node = machine.arcNode(state, k);
-        if (node == NONE) {
+        if (k < 0 || k >= machine.arcsFrom(state)) {
             return NONE;
         }
+        int node = machine.arcNode(state, k);
         switch (what) {
             case 0: return machine.letter[node];
             case 1: return machine.outputTo(node);
@@ -456,14 +458,14 @@ public final class NumberWords {
     }
 
     public int best(int k) {
-        int most = tape.size;
+        int length = tape.size;
         long letters = takeLetters();
         if (letters == NO_LETTERS || k < 0) {
             return NONE;
         }
         int from = words.ahead(letters);
         int to = from;
-        while (to < words.size && headOf(words.words[to], most) == letters) {
+        while (to < words.size && headOf(words.words[to], length) == letters) {
             to++;
         }
         for (int rank = from; rank < to; rank++) {
@@ -534,7 +536,7 @@ public final class NumberWords {
         switch (what) {
             case 0: return words.size;
             case 1: return freshMachine().states;
-            case 2: return freshMachine().countArcs();
+            case 2: return freshMachine().arcs;
             case 3: return words.leastNumber();
             case 4: return words.total(0, words.size);
             case 5: return builder.size;
@@ -903,8 +905,11 @@ public final class NumberWords {
         private final int[] bucket = new int[BUCKETS];
         private final int[] nextInBucket = new int[MOST_NODES];
         private final int[] path = new int[MOST_LETTERS + 1];
+        private final int[] firstArc = new int[MOST_NODES + 1];
+        private final int[] arcNodes = new int[MOST_NODES];
         private int nodes;
         private int states;
+        private int arcs;
 
         /** With lastOpen each beginning of the last word has a state for itself, as long as the book is built. */
         private void tell(Book book, boolean lastOpen) {
@@ -912,6 +917,7 @@ public final class NumberWords {
             measure(book.size == 0);
             findTwins(lastOpen);
             numberStates();
+            listArcs();
         }
 
         private void plant(Book book) {
@@ -995,7 +1001,7 @@ public final class NumberWords {
         private int hashOf(int node) {
             int hash = endsWith(node);
             int end = node + span[node];
-            for (int next = node + 1; next < end; next += span[next]) {
+            for (int next = node + 1; next < end; next += Math.max(1, span[next])) {
                 hash = hash * 31 + letter[next];
                 hash = hash * 31 + outputTo(next);
                 hash = hash * 31 + twin[next];
@@ -1008,7 +1014,7 @@ public final class NumberWords {
                 return false;
             }
             int end = a + span[a];
-            for (int x = a + 1; x < end; x += span[x]) {
+            for (int x = a + 1; x < end; x += Math.max(1, span[x])) {
                 // twins have as many nodes, so as long as all is alike what goes on from b stands as far behind it
                 int y = x - a + b;
                 if (letter[x] != letter[y] || outputTo(x) != outputTo(y) || twin[x] != twin[y]) {
@@ -1031,6 +1037,20 @@ public final class NumberWords {
             }
         }
 
+        /** A state's arcs are those of its first node: from its first one on till the first one of the state behind. */
+        private void listArcs() {
+            arcs = 0;
+            for (int s = 0; s < states; s++) {
+                firstArc[s] = arcs;
+                int end = nodeOf[s] + span[nodeOf[s]];
+                for (int next = nodeOf[s] + 1; next < end; next += Math.max(1, span[next])) {
+                    arcNodes[arcs] = next;
+                    arcs++;
+                }
+            }
+            firstArc[states] = arcs;
+        }
+
         private boolean hasState(int s) {
             return s >= 0 && s < states;
         }
@@ -1045,66 +1065,42 @@ public final class NumberWords {
             return parent[node] == NONE ? 0 : least[node] - least[parent[node]];
         }
 
-        /** The node behind these letters, NONE if no word begins with them. */
-        private int nodeBehind(long letters) {
-            int node = 0;
+        /** The state behind these letters, NONE if no word begins with them. */
+        private int stateBehind(long letters) {
+            int s = 0;
             int wanted = lettersIn(letters);
-            for (int i = 0; i < wanted && node != NONE; i++) {
-                node = nextNode(node, letterOf(letters, i));
+            for (int i = 0; i < wanted && s != NONE; i++) {
+                s = nextState(s, letterOf(letters, i));
             }
-            return node;
+            return s;
         }
 
-        private int nextNode(int node, int wanted) {
-            int end = node + span[node];
-            for (int next = node + 1; next < end; next += span[next]) {
-                if (letter[next] == wanted) {
-                    return next;
+        private int nextState(int s, int wanted) {
+            for (int i = firstArc[s]; i < firstArc[s + 1]; i++) {
+                if (letter[arcNodes[i]] == wanted) {
+                    return stateOf[arcNodes[i]];
                 }
             }
             return NONE;
         }
 
         private int arcsFrom(int s) {
-            int arcs = 0;
-            int end = nodeOf[s] + span[nodeOf[s]];
-            for (int next = nodeOf[s] + 1; next < end; next += span[next]) {
-                arcs++;
-            }
-            return arcs;
+            return firstArc[s + 1] - firstArc[s];
         }
 
-        /** The node to which the k-th arc goes, NONE without it. */
+        /** The node to which the k-th arc of a state's first node goes. */
         private int arcNode(int s, int k) {
-            int arcs = 0;
-            int end = nodeOf[s] + span[nodeOf[s]];
-            for (int next = nodeOf[s] + 1; next < end; next += span[next]) {
-                if (arcs == k) {
-                    return next;
-                }
-                arcs++;
-            }
-            return NONE;
+            return arcNodes[firstArc[s] + k];
         }
 
-        private int countArcs() {
-            int arcs = 0;
-            for (int s = 0; s < states; s++) {
-                arcs += arcsFrom(s);
-            }
-            return arcs;
-        }
-
-        /** An arc is one of its state, so it is counted at that state's first node alone. */
         private int arcsTo(int s) {
-            int arcs = 0;
-            for (int node = 1; node < nodes; node++) {
-                int from = parent[node];
-                if (stateOf[node] == s && nodeOf[stateOf[from]] == from) {
-                    arcs++;
+            int come = 0;
+            for (int i = 0; i < arcs; i++) {
+                if (stateOf[arcNodes[i]] == s) {
+                    come++;
                 }
             }
-            return arcs;
+            return come;
         }
 
         private int shortestBeginning(int s) {
@@ -1194,8 +1190,8 @@ public final class NumberWords {
             if (ends != REFUSED) {
                 addNumber(ends);
             }
-            int end = node + machine.span[node];
-            for (int next = node + 1; next < end; next += machine.span[next]) {
+            for (int k = 0; k < machine.arcsFrom(s); k++) {
+                int next = machine.arcNode(s, k);
                 addNumber(machine.letter[next]);
                 addNumber(machine.outputTo(next));
                 addNumber(machine.stateOf[next]);
@@ -1204,7 +1200,7 @@ public final class NumberWords {
 
         private void addNumber(int number) {
             int left = number;
-            while (left > 127) {
+            for (int i = 1; i < MOST_NUMBER_BYTES && left > 127; i++) {
                 addByte(left & 127 | 128);
                 left >>= 7;
             }
@@ -1235,7 +1231,6 @@ public final class NumberWords {
 
     /** Reads the tape as the bytes of a machine. */
     private static final class Unpacking {
-        private static final int MOST_NUMBER_BYTES = 4;
         private static final int MOST_HEAD = 53;
 
         private final Tape tape;
