@@ -154,14 +154,11 @@ public final class NumberWords {
 
     public int append(int number) {
         long letters = takeLetters();
-        if (!isWord(letters) || !isNumber(number)) {
+        if (!isWord(letters) || !isNumber(number) || builder.size >= MOST_WORDS) {
             return NONE;
         }
         if (builder.size > 0 && letters <= builder.lastWord()) {
             return REFUSED;
-        }
-        if (builder.size >= MOST_WORDS) {
-            return NONE;
         }
         builder.addLast(letters, number);
         builderIsOld = true;

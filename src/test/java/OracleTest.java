@@ -268,6 +268,23 @@ public final class OracleTest {
         }
     }
 
+    /** Rising words till the builder has all that it may have. */
+    private void fillBuilder() {
+        java.util.TreeSet<String> words = new java.util.TreeSet<>();
+        while (words.size() < 100) {
+            StringBuilder word = new StringBuilder();
+            for (int length = 1 + random.nextInt(longest); length > 0; length--) {
+                word.append((char) ('a' + random.nextInt(26)));
+            }
+            words.add(word.toString());
+        }
+        for (String word : words) {
+            int number = random.nextInt(greatest + 1);
+            say(word);
+            due("append " + number, x.append(number), o.append(number));
+        }
+    }
+
     private void wholeState() {
         int s = random.nextInt(x.count(1) + 2) - 1;
         int arcs = x.arc(s, -1, 0);
@@ -334,8 +351,12 @@ public final class OracleTest {
         int runs = args.length > 0 ? Integer.parseInt(args[0]) : 400;
         for (int seed = 1; seed <= runs && !exam.failed(); seed++) {
             OracleTest run = new OracleTest(seed);
+            boolean isFull = seed % 8 == 5;
+            if (isFull) {
+                run.fillBuilder();
+            }
             // what the class is asked beside (count, word, value) counts too
-            while (run.calls < 220 && !exam.failed()) {
+            while (run.calls < (isFull ? 420 : 220) && !exam.failed()) {
                 run.step();
             }
             if (seed % 4 == 0) {

@@ -343,8 +343,25 @@ public final class PromisesTest {
         due("append, 100", y.count(5), 100);
         due("append, the 101st", append(y, "zz", 0), NONE);
         due("append, the 101st: tape", y.count(10), 0);
-        due("append, ahead of the last of 100", append(y, "aa", 0), -2);
+        due("append, ahead of the last of 100", append(y, "aa", 0), NONE);
+        due("append, ahead of the last of 100: tape", y.count(10), 0);
+        due("append, the last of 100 again", append(y, pairs(99, 100), 99), NONE);
+        due("append, no word behind 100", append(y, "a-", 0), NONE);
+        due("append, no number behind 100", append(y, "zz", -1), NONE);
         due("append, 100", y.count(5), 100);
+        due("append, 100: open", y.count(6), 3);
+        due("append, 100 are no act", y.count(8), 0);
+        NumberWords z = new NumberWords();
+        for (int i = 0; i < 99; i++) {
+            append(z, pairs(i, i + 1), i);
+        }
+        due("append, ahead of the last of 99", append(z, "aa", 0), -2);
+        due("append, the last of 99 again", append(z, pairs(98, 99), 98), -2);
+        due("append, 99", z.count(5), 99);
+        append(z, "zz", 0);
+        due("append, the 100th", z.count(5), 100);
+        z.finish();
+        due("append behind 100 that are finished", append(z, "a", 0), 2);
     }
 
     private static void finish() {

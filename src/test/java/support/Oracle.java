@@ -185,14 +185,11 @@ final class Oracle {
 
     int append(int number) {
         String word = take();
-        if (!isLetters(word, 1, 10) || !isNumber(number)) {
+        if (!isLetters(word, 1, 10) || !isNumber(number) || builder.size() == 100) {
             return NONE;
         }
         if (!builder.isEmpty() && builder.lastKey().compareTo(word) >= 0) {
             return -2;
-        }
-        if (builder.size() == 100) {
-            return NONE;
         }
         builder.put(word, number);
         return count(6) + count(7);
