@@ -9,39 +9,6 @@ public final class PromisesTest {
         exam.due(call, got, want);
     }
 
-    private static NumberWords told(String list) {
-        NumberWords x = new NumberWords();
-        Say.to(x, list).list();
-        return x;
-    }
-
-    private static NumberWords animals() {
-        return told("cat=5,car=3,dog=7,do=2");
-    }
-
-    /** 100 words of two letters: aa, ab, .. dv. */
-    private static NumberWords full() {
-        NumberWords x = told(pairs(0, 100));
-        due("words of a full machine", x.count(0), 100);
-        return x;
-    }
-
-    private static String pairs(int from, int to) {
-        StringBuilder list = new StringBuilder();
-        for (int i = from; i < to; i++) {
-            list.append(i == from ? "" : ",").append((char) ('a' + i / 26)).append((char) ('a' + i % 26));
-        }
-        return list.toString();
-    }
-
-    private static int append(NumberWords x, String word, int number) {
-        return Say.to(x, word).append(number);
-    }
-
-    private static int put(NumberWords x, String word, int number) {
-        return Say.to(x, word).put(number);
-    }
-
     private static void words(String call, NumberWords x, String want) {
         String got = Say.words(x);
         exam.holds(call + ": words are " + got + ", due are " + want, got.equals(want));
@@ -166,13 +133,13 @@ public final class PromisesTest {
         due("list, the same is an act", x.count(8), 3);
         due("list, many noughts", Say.to(x, "b=" + repeat("0", 300) + "12").list(), 7);
         due("list, many noughts", Say.to(x, "b").number(), 12);
-        NumberWords y = full();
+        NumberWords y = Made.full();
         due("list on the full", Say.to(y, "aa=4,dv=5").list(), 100);
         due("list on the full", y.value(99), 5);
     }
 
     private static void listFault(String text, int place, int kind) {
-        NumberWords x = animals();
+        NumberWords x = Made.animals();
         due("list \"" + text + "\"", Say.to(x, text).list(), -2 - (8 * place + kind));
         due("list \"" + text + "\": tape", x.count(10), 0);
         due("list \"" + text + "\": acts", x.count(8), 1);
@@ -215,15 +182,15 @@ public final class PromisesTest {
         listFault("ab,ab", 3, 3);
         listFault("ab=1, ab=2", 6, 3);
         listFault("a,b,a!", 4, 3);
-        listFault(pairs(0, 98), 3 * 97, 4);
-        NumberWords x = full();
+        listFault(Made.pairs(0, 98), 3 * 97, 4);
+        NumberWords x = Made.full();
         due("the 101st", Say.to(x, "aa=1,zz").list(), -2 - (8 * 5 + 4));
         due("the 101st and too long", Say.to(x, "zzzzzzzzzzz").list(), -2 - 2);
         due("the 101st told twice", Say.to(x, "aa,aa").list(), -2 - (8 * 3 + 3));
         due("the first of the faults", Say.to(x, "aa,zz,,").list(), -2 - (8 * 3 + 4));
         due("an ahead one of the faults", Say.to(x, "aa,=,zz").list(), -2 - (8 * 3 + 1));
         due("aa is as it was", x.value(0), 0);
-        String longest = pairs(0, 100) + ",dw" + repeat(" ", 98);
+        String longest = Made.pairs(0, 100) + ",dw" + repeat(" ", 98);
         due("a list of 400 bytes", Say.to(new NumberWords(), longest).list(), -2 - (8 * 300 + 4));
         due("a fault at the end of 400 bytes", Say.to(new NumberWords(), "a" + repeat(" ", 398) + ",").list(),
                 -2 - (8 * 400 + 1));
@@ -231,40 +198,40 @@ public final class PromisesTest {
 
     private static void put() {
         NumberWords x = new NumberWords();
-        due("put cat", put(x, "cat", 5), 4);
+        due("put cat", Say.put(x, "cat", 5), 4);
         due("put: tape", x.count(10), 0);
-        due("put car", put(x, "car", 3), 4);
-        due("put cat, another number", put(x, "cat", 6), 4);
+        due("put car", Say.put(x, "car", 3), 4);
+        due("put cat, another number", Say.put(x, "cat", 6), 4);
         words("put", x, "car=3 cat=6");
         due("put: acts", x.count(8), 3);
-        due("put, there so", put(x, "cat", 6), -2);
+        due("put, there so", Say.put(x, "cat", 6), -2);
         due("put, there so: tape", x.count(10), 0);
-        due("put, below 0", put(x, "cow", -1), NONE);
+        due("put, below 0", Say.put(x, "cow", -1), NONE);
         due("put, below 0: tape", x.count(10), 0);
-        due("put, above", put(x, "cow", 1000000), NONE);
-        due("put, nothing", put(x, "", 1), NONE);
-        due("put, eleven letters", put(x, "abcdefghijk", 1), NONE);
-        due("put, a blank", put(x, " cow", 1), NONE);
-        due("put, a list", put(x, "cow=3", 1), NONE);
-        due("put, a capital", put(x, "Cow", 1), NONE);
+        due("put, above", Say.put(x, "cow", 1000000), NONE);
+        due("put, nothing", Say.put(x, "", 1), NONE);
+        due("put, eleven letters", Say.put(x, "abcdefghijk", 1), NONE);
+        due("put, a blank", Say.put(x, " cow", 1), NONE);
+        due("put, a list", Say.put(x, "cow=3", 1), NONE);
+        due("put, a capital", Say.put(x, "Cow", 1), NONE);
         due("put, no word: tape", x.count(10), 0);
         due("put, faults: acts", x.count(8), 3);
         words("put, faults", x, "car=3 cat=6");
-        due("put, the greatest", put(x, "abcdefghij", 999999), 13);
-        due("put, the least", put(x, "z", 0), 13);
+        due("put, the greatest", Say.put(x, "abcdefghij", 999999), 13);
+        due("put, the least", Say.put(x, "z", 0), 13);
         words("put, all", x, "abcdefghij=999999 car=3 cat=6 z=0");
-        NumberWords y = full();
-        due("put, the 101st", put(y, "zz", 1), NONE);
+        NumberWords y = Made.full();
+        due("put, the 101st", Say.put(y, "zz", 1), NONE);
         due("put, the 101st: tape", y.count(10), 0);
         due("put, the 101st: acts", y.count(8), 1);
-        due("put, one of the 100", put(y, "aa", 1), y.count(1));
+        due("put, one of the 100", Say.put(y, "aa", 1), y.count(1));
         due("put, one of the 100", y.value(0), 1);
         due("put, one of the 100: acts", y.count(8), 2);
-        due("put, one of the 100, there so", put(y, "aa", 1), -2);
+        due("put, one of the 100, there so", Say.put(y, "aa", 1), -2);
     }
 
     private static void cut() {
-        NumberWords x = animals();
+        NumberWords x = Made.animals();
         due("cut cat", Say.to(x, "cat").cut(), 6);
         due("cut: tape", x.count(10), 0);
         words("cut", x, "car=3 do=2 dog=7");
@@ -280,7 +247,7 @@ public final class PromisesTest {
         due("cut car", Say.to(x, "car").cut(), 1);
         due("cut, none left", x.count(0), 0);
         due("cut, none left: start", x.count(3), 0);
-        NumberWords y = full();
+        NumberWords y = Made.full();
         due("cut aa of 100", Say.to(y, "aa").cut(), y.count(1));
         due("cut of 100", y.count(0), 99);
         due("cut of 100: the last", y.word(98, 1), 22);
@@ -290,7 +257,7 @@ public final class PromisesTest {
         NumberWords x = new NumberWords();
         due("raise of nothing", x.raise(1), NONE);
         due("raise of nothing: acts", x.count(8), 0);
-        x = animals();
+        x = Made.animals();
         due("raise(0)", x.raise(0), NONE);
         due("raise(-3)", x.raise(-3), NONE);
         due("raise(999993)", x.raise(999993), NONE);
@@ -309,69 +276,69 @@ public final class PromisesTest {
     }
 
     private static void append() {
-        NumberWords x = animals();
-        due("append ab", append(x, "ab", 4), 3);
+        NumberWords x = Made.animals();
+        due("append ab", Say.append(x, "ab", 4), 3);
         due("append: tape", x.count(10), 0);
-        due("append b", append(x, "b", 4), 4);
+        due("append b", Say.append(x, "b", 4), 4);
         due("append: open", x.count(6), 2);
         due("append: closed", x.count(7), 2);
-        due("append ba", append(x, "ba", 9), 5);
+        due("append ba", Say.append(x, "ba", 9), 5);
         due("append: open", x.count(6), 3);
         due("append: closed", x.count(7), 2);
-        due("append cb, as ab", append(x, "cb", 1), 6);
+        due("append cb, as ab", Say.append(x, "cb", 1), 6);
         due("append: open", x.count(6), 3);
         due("append: closed", x.count(7), 3);
-        due("append d: cb closes as ab did", append(x, "d", 1), 5);
+        due("append d: cb closes as ab did", Say.append(x, "d", 1), 5);
         due("append: closed", x.count(7), 3);
-        due("append, the same", append(x, "d", 1), -2);
-        due("append, the same, another number", append(x, "d", 2), -2);
-        due("append, ahead", append(x, "cc", 1), -2);
+        due("append, the same", Say.append(x, "d", 1), -2);
+        due("append, the same, another number", Say.append(x, "d", 2), -2);
+        due("append, ahead", Say.append(x, "cc", 1), -2);
         due("append, ahead: tape", x.count(10), 0);
-        due("append, below 0", append(x, "e", -1), NONE);
-        due("append, above", append(x, "e", 1000000), NONE);
-        due("append, ahead, and no number", append(x, "a", -1), NONE);
-        due("append, nothing", append(x, "", 1), NONE);
-        due("append, eleven letters", append(x, "eeeeeeeeeee", 1), NONE);
-        due("append, a sign", append(x, "e-", 1), NONE);
+        due("append, below 0", Say.append(x, "e", -1), NONE);
+        due("append, above", Say.append(x, "e", 1000000), NONE);
+        due("append, ahead, and no number", Say.append(x, "a", -1), NONE);
+        due("append, nothing", Say.append(x, "", 1), NONE);
+        due("append, eleven letters", Say.append(x, "eeeeeeeeeee", 1), NONE);
+        due("append, a sign", Say.append(x, "e-", 1), NONE);
         due("append, no word: tape", x.count(10), 0);
         due("append: words of the builder", x.count(5), 5);
         due("append: words", x.count(0), 4);
         due("append is no act", x.count(8), 1);
         NumberWords y = new NumberWords();
         for (int i = 0; i < 100; i++) {
-            append(y, pairs(i, i + 1), i);
+            Say.append(y, Made.pairs(i, i + 1), i);
         }
         due("append, 100", y.count(5), 100);
-        due("append, the 101st", append(y, "zz", 0), NONE);
+        due("append, the 101st", Say.append(y, "zz", 0), NONE);
         due("append, the 101st: tape", y.count(10), 0);
-        due("append, ahead of the last of 100", append(y, "aa", 0), NONE);
+        due("append, ahead of the last of 100", Say.append(y, "aa", 0), NONE);
         due("append, ahead of the last of 100: tape", y.count(10), 0);
-        due("append, the last of 100 again", append(y, pairs(99, 100), 99), NONE);
-        due("append, no word behind 100", append(y, "a-", 0), NONE);
-        due("append, no number behind 100", append(y, "zz", -1), NONE);
+        due("append, the last of 100 again", Say.append(y, Made.pairs(99, 100), 99), NONE);
+        due("append, no word behind 100", Say.append(y, "a-", 0), NONE);
+        due("append, no number behind 100", Say.append(y, "zz", -1), NONE);
         due("append, 100", y.count(5), 100);
         due("append, 100: open", y.count(6), 3);
         due("append, 100 are no act", y.count(8), 0);
         NumberWords z = new NumberWords();
         for (int i = 0; i < 99; i++) {
-            append(z, pairs(i, i + 1), i);
+            Say.append(z, Made.pairs(i, i + 1), i);
         }
-        due("append, ahead of the last of 99", append(z, "aa", 0), -2);
-        due("append, the last of 99 again", append(z, pairs(98, 99), 98), -2);
+        due("append, ahead of the last of 99", Say.append(z, "aa", 0), -2);
+        due("append, the last of 99 again", Say.append(z, Made.pairs(98, 99), 98), -2);
         due("append, 99", z.count(5), 99);
-        append(z, "zz", 0);
+        Say.append(z, "zz", 0);
         due("append, the 100th", z.count(5), 100);
         z.finish();
-        due("append behind 100 that are finished", append(z, "a", 0), 2);
+        due("append behind 100 that are finished", Say.append(z, "a", 0), 2);
     }
 
     private static void finish() {
-        NumberWords x = animals();
+        NumberWords x = Made.animals();
         due("finish of nothing", x.finish(), NONE);
         due("finish of nothing: acts", x.count(8), 1);
-        append(x, "ab", 4);
-        append(x, "b", 4);
-        append(x, "cb", 1);
+        Say.append(x, "ab", 4);
+        Say.append(x, "b", 4);
+        Say.append(x, "cb", 1);
         due("finish", x.finish(), 3);
         words("finish", x, "ab=4 b=4 cb=1");
         due("finish: builder", x.count(5), 0);
@@ -379,12 +346,12 @@ public final class PromisesTest {
         due("finish: closed", x.count(7), 0);
         due("finish: acts", x.count(8), 2);
         due("finish again", x.finish(), NONE);
-        due("append after finish", append(x, "a", 0), 2);
+        due("append after finish", Say.append(x, "a", 0), 2);
         words("append after finish", x, "ab=4 b=4 cb=1");
     }
 
     private static NumberWords ofTwo() {
-        NumberWords x = told("b=600000,c=2,d=9");
+        NumberWords x = Made.told("b=600000,c=2,d=9");
         x.keep(1);
         Say.to(x, "d").cut();
         Say.to(x, "a=4,b=500000,c=3").list();
@@ -418,12 +385,12 @@ public final class PromisesTest {
         due("join(1, 0, -1)", x.join(1, 0, -1), NONE);
         due("join(1, 1, 5)", x.join(1, 1, 5), NONE);
         due("join, faults: acts", x.count(8), acts + 1);
-        NumberWords y = full();
+        NumberWords y = Made.full();
         y.keep(0);
         Say.to(y, "aa").cut();
         due("join, 100 in all", y.join(0, 0, 3), 100);
         Say.to(y, "aa").cut();
-        put(y, "zz", 1);
+        Say.put(y, "zz", 1);
         acts = y.count(8);
         due("join, 101 in all", y.join(0, 0, 3), -2);
         due("join, 101 in all: acts", y.count(8), acts);
@@ -433,12 +400,12 @@ public final class PromisesTest {
     }
 
     private static void undo() {
-        NumberWords x = animals();
+        NumberWords x = Made.animals();
         due("undo list", x.undo(), 0);
         words("undo list", x, "");
         due("undo, no more", x.undo(), NONE);
         for (int i = 1; i <= 13; i++) {
-            put(x, "a", i);
+            Say.put(x, "a", i);
         }
         due("twelve acts at most", x.count(8), 12);
         for (int i = 11; i >= 0; i--) {
@@ -453,16 +420,16 @@ public final class PromisesTest {
         x.raise(5);
         due("undo raise", x.undo(), 0);
         words("undo raise", x, "a=1");
-        append(x, "b", 2);
-        append(x, "c", 2);
+        Say.append(x, "b", 2);
+        Say.append(x, "c", 2);
         x.finish();
-        append(x, "x", 3);
+        Say.append(x, "x", 3);
         due("undo finish", x.undo(), 0);
         words("undo finish", x, "a=1");
         due("undo finish: builder", x.count(5), 2);
-        due("undo finish: builder goes on", append(x, "d", 2), 3);
-        put(x, "b", 1);
-        append(x, "e", 1);
+        due("undo finish: builder goes on", Say.append(x, "d", 2), 3);
+        Say.put(x, "b", 1);
+        Say.append(x, "e", 1);
         due("undo: builder", x.count(5), 4);
         due("undo put", x.undo(), 0);
         due("undo put: the builder as it was ahead", x.count(5), 3);
@@ -471,13 +438,13 @@ public final class PromisesTest {
         due("unpack is an act", x.count(8), 1);
         due("undo unpack", x.undo(), 0);
         x.keep(2);
-        put(x, "q", 1);
+        Say.put(x, "q", 1);
         x.undo();
         due("what is kept stays", x.count(9), 4);
     }
 
     private static void keepAndSame() {
-        NumberWords x = animals();
+        NumberWords x = Made.animals();
         for (int shelf : new int[] {-1, 3, 32, Integer.MIN_VALUE}) {
             due("keep(" + shelf + ")", x.keep(shelf), NONE);
             due("same(" + shelf + ")", x.same(shelf), NONE);
@@ -488,12 +455,12 @@ public final class PromisesTest {
         due("shelves", x.count(9), 4);
         due("same(2)", x.same(2), 1);
         due("same(1), nothing kept", x.same(1), -2);
-        put(x, "cat", 6);
+        Say.put(x, "cat", 6);
         due("same(2), another number", x.same(2), 0);
-        put(x, "cat", 5);
+        Say.put(x, "cat", 5);
         due("same(2), again", x.same(2), 1);
         Say.to(x, "cat").cut();
-        put(x, "caw", 5);
+        Say.put(x, "caw", 5);
         due("same(2), another word", x.same(2), 0);
         Say.to(x, "caw").cut();
         due("same(2), a word less", x.same(2), 0);
@@ -506,12 +473,12 @@ public final class PromisesTest {
         due("same of nothing", y.same(0), 1);
         due("keep(1)", y.keep(1), 0);
         due("shelves", y.count(9), 3);
-        put(y, "a", 0);
+        Say.put(y, "a", 0);
         due("same of nothing", y.same(0), 0);
     }
 
     private static void number() {
-        NumberWords x = animals();
+        NumberWords x = Made.animals();
         due("number cat", Say.to(x, "cat").number(), 5);
         due("number: tape", x.count(10), 0);
         due("number do", Say.to(x, "do").number(), 2);
@@ -525,7 +492,7 @@ public final class PromisesTest {
     }
 
     private static void rank() {
-        NumberWords x = animals();
+        NumberWords x = Made.animals();
         due("rank car", Say.to(x, "car").rank(), 0);
         due("rank cat", Say.to(x, "cat").rank(), 1);
         due("rank cats", Say.to(x, "cats").rank(), 2);
@@ -538,14 +505,14 @@ public final class PromisesTest {
         due("rank 61", Say.to(x, repeat("d", 61)).rank(), NONE);
         due("rank, a blank", Say.to(x, "c at").rank(), NONE);
         due("rank: tape", x.count(10), 0);
-        put(x, "abcdefghij", 0);
+        Say.put(x, "abcdefghij", 0);
         due("rank of ten letters", Say.to(x, "abcdefghij").rank(), 0);
         due("rank of ten letters and one", Say.to(x, "abcdefghija").rank(), 1);
         due("rank of ten other letters and one", Say.to(x, "abcdefghiia").rank(), 0);
     }
 
     private static void wordAndValue() {
-        NumberWords x = animals();
+        NumberWords x = Made.animals();
         due("word(2, NONE)", x.word(2, NONE), 2);
         due("word(3, NONE)", x.word(3, NONE), 3);
         due("word(0, 0)", x.word(0, 0), 3);
@@ -562,7 +529,7 @@ public final class PromisesTest {
         due("value(3)", x.value(3), 7);
         due("value(4)", x.value(4), NONE);
         due("value(-1)", x.value(-1), NONE);
-        put(x, "zyxwvutsrq", 0);
+        Say.put(x, "zyxwvutsrq", 0);
         due("word(4, NONE)", x.word(4, NONE), 10);
         due("word(4, 0)", x.word(4, 0), 26);
         due("word(4, 9)", x.word(4, 9), 17);
@@ -570,7 +537,7 @@ public final class PromisesTest {
     }
 
     private static void first() {
-        NumberWords x = told("b=4,a=7,c=4,d=0,e=999999");
+        NumberWords x = Made.told("b=4,a=7,c=4,d=0,e=999999");
         due("first(4)", x.first(4), 1);
         due("first(7)", x.first(7), 0);
         due("first(0)", x.first(0), 3);
@@ -581,7 +548,7 @@ public final class PromisesTest {
     }
 
     private static void state() {
-        NumberWords x = animals();
+        NumberWords x = Made.animals();
         String[] beginnings = {"", "c", "ca", "car", "cat", "d", "do", "dog"};
         int[] states = {0, 1, 2, 3, 3, 4, 5, 3};
         for (int i = 0; i < states.length; i++) {
@@ -594,21 +561,21 @@ public final class PromisesTest {
         due("state ca?", Say.to(x, "ca?").state(), NONE);
         due("state, a blank", Say.to(x, " ").state(), NONE);
         due("state: tape", x.count(10), 0);
-        put(x, "abcdefghij", 0);
+        Say.put(x, "abcdefghij", 0);
         due("state of ten letters", Say.to(x, "abcdefghij").state(), 10);
         due("state of ten letters and one", Say.to(x, "abcdefghijk").state(), -2);
         due("state, numbered anew", Say.to(x, "d").state(), 13);
-        NumberWords y = told("ab=1,ac=5,b=2,bb=3");
+        NumberWords y = Made.told("ab=1,ac=5,b=2,bb=3");
         due("like letters, other numbers: a", Say.to(y, "a").state(), 1);
         due("b", Say.to(y, "b").state(), 3);
-        NumberWords z = told("xa=1,xb=5,ya=3,yb=7");
+        NumberWords z = Made.told("xa=1,xb=5,ya=3,yb=7");
         due("like rests: x", Say.to(z, "x").state(), 1);
         due("like rests: y", Say.to(z, "y").state(), 1);
         due("states", z.count(1), 3);
     }
 
     private static void arc() {
-        NumberWords x = animals();
+        NumberWords x = Made.animals();
         int[][] arcs = {{0, 0, 3, 1, 1}, {0, 1, 4, 0, 4}, {1, 0, 1, 0, 2}, {2, 0, 18, 0, 3}, {2, 1, 20, 2, 3},
             {4, 0, 15, 0, 5}, {5, 0, 7, 5, 3}};
         for (int[] arc : arcs) {
@@ -630,7 +597,7 @@ public final class PromisesTest {
     }
 
     private static void about() {
-        NumberWords x = animals();
+        NumberWords x = Made.animals();
         int[][] abouts = {
             {-2, 4, 3, 2, 0, 0, 5, 1},
             {-2, 2, 2, 2, 1, 1, 2, 1},
@@ -647,11 +614,11 @@ public final class PromisesTest {
         due("about(-1, 0)", x.about(-1, 0), NONE);
         due("about(0, 8)", x.about(0, 8), NONE);
         due("about(0, -1)", x.about(0, -1), NONE);
-        NumberWords y = told("a=9,ab=4,abc=6");
+        NumberWords y = Made.told("a=9,ab=4,abc=6");
         due("ends above the least", y.about(1, 0), 5);
         due("ends with the least", y.about(2, 0), 0);
         due("ends with the last", y.about(3, 0), 0);
-        NumberWords z = told("a=1,xa=1,yxa=1");
+        NumberWords z = Made.told("a=1,xa=1,yxa=1");
         due("the shortest beginning", z.about(1, 5), 1);
         due("the shortest of two", z.about(2, 5), 1);
         due("arcs that come", z.about(1, 4), 2);
@@ -665,7 +632,7 @@ public final class PromisesTest {
     }
 
     private static void range() {
-        NumberWords x = animals();
+        NumberWords x = Made.animals();
         rangeDue(x, "car-do", 3, 10, 2, 5, 0);
         rangeDue(x, "cat-", 3, 14, 2, 7, 1);
         rangeDue(x, "-", 4, 17, 2, 7, 0);
@@ -682,7 +649,7 @@ public final class PromisesTest {
         due("range 5", Say.to(x, "a-b").range(5), NONE);
         due("range -1", Say.to(x, "a-b").range(-1), NONE);
         due("range -1: tape", x.count(10), 0);
-        NumberWords y = told("a=999999,b=999999,c=0");
+        NumberWords y = Made.told("a=999999,b=999999,c=0");
         rangeDue(y, "a-b", 2, 1999998, 999999, 999999, 0);
     }
 
@@ -696,7 +663,7 @@ public final class PromisesTest {
     }
 
     private static void near() {
-        NumberWords x = animals();
+        NumberWords x = Made.animals();
         nearDue(x, "cat", 0, 1);
         nearDue(x, "cot", 0);
         nearDue(x, "cot", 1, 1);
@@ -714,7 +681,7 @@ public final class PromisesTest {
         due("near 11 letters", Say.to(x, "catcatcatca").near(1, 0), NONE);
         due("near, a sign", Say.to(x, "ca?").near(1, 0), NONE);
         due("near: tape", x.count(10), 0);
-        NumberWords y = told("kitten,sitting");
+        NumberWords y = Made.told("kitten,sitting");
         nearDue(y, "kitten", 3, 0, 1);
         nearDue(y, "kitten", 2, 0);
     }
@@ -729,7 +696,7 @@ public final class PromisesTest {
     }
 
     private static void like() {
-        NumberWords x = animals();
+        NumberWords x = Made.animals();
         likeDue(x, "cat", 1);
         likeDue(x, "ca?", 0, 1);
         likeDue(x, "ca", new int[0]);
@@ -750,7 +717,7 @@ public final class PromisesTest {
         due("like 13 signs", Say.to(x, "*************").like(NONE), NONE);
         due("like C", Say.to(x, "C").like(NONE), NONE);
         due("like: tape", x.count(10), 0);
-        NumberWords y = told("aab,aaab,abab,abcdefghij");
+        NumberWords y = Made.told("aab,aaab,abab,abcdefghij");
         likeDue(y, "*ab", 0, 1, 2);
         likeDue(y, "a*a*b", 0, 1, 2);
         likeDue(y, "a*e?g*", 3);
@@ -765,7 +732,7 @@ public final class PromisesTest {
     }
 
     private static void best() {
-        NumberWords x = told("a=5,ab=9,abc=5,b=9,ba=1,bb=1,c=0");
+        NumberWords x = Made.told("a=5,ab=9,abc=5,b=9,ba=1,bb=1,c=0");
         bestDue(x, "", 1, 3, 0, 2, 4, 5, 6);
         bestDue(x, "a", 1, 0, 2);
         bestDue(x, "b", 3, 4, 5);
@@ -787,17 +754,17 @@ public final class PromisesTest {
     }
 
     private static void pieces() {
-        NumberWords x = told("cat=5,car=3,dog=7,do=2,gs=4,s=1,dogs=1");
+        NumberWords x = Made.told("cat=5,car=3,dog=7,do=2,gs=4,s=1,dogs=1");
         piecesDue(x, "catdogdo", 3, 8, 3, 14, 1);
         piecesDue(x, "dogs", 1, 4, 1, 8, 3);
         piecesDue(x, "doga", 1, 3, -2, -2, 0);
         piecesDue(x, "xdog", 0, 0, -2, -2, 0);
         piecesDue(x, "dogsdogs", 2, 8, 2, 16, 9);
-        NumberWords y = told("ab=1,abc=9,cd=5,d=2");
+        NumberWords y = Made.told("ab=1,abc=9,cd=5,d=2");
         piecesDue(y, "abcd", 2, 4, 2, 11, 2);
-        NumberWords g = told("ab=1,abc=9,cd=5");
+        NumberWords g = Made.told("ab=1,abc=9,cd=5");
         piecesDue(g, "abcd", 1, 3, 2, 6, 1);
-        NumberWords z = told("a=0,aa=999999,aaaaaaaaaa=3");
+        NumberWords z = Made.told("a=0,aa=999999,aaaaaaaaaa=3");
         piecesDue(z, repeat("a", 10), 1, 10, 1, 4999995, 90);
         piecesDue(z, repeat("a", 12), 2, 12, 2, 5999994, 238);
         long[] ways = new long[61];
@@ -818,7 +785,7 @@ public final class PromisesTest {
         2, 15, 0, 5, 3, 0, 7, 5, 3};
 
     private static void pack() {
-        NumberWords x = animals();
+        NumberWords x = Made.animals();
         Say.to(x, "something");
         due("pack", x.pack(), 31);
         exam.holds("packed", Arrays.equals(Say.tape(x), ANIMALS_PACKED));
@@ -826,14 +793,14 @@ public final class PromisesTest {
         NumberWords y = new NumberWords();
         due("pack of nothing", y.pack(), 3);
         exam.holds("packed nothing", Arrays.equals(Say.tape(y), new int[] {1, 0, 0}));
-        NumberWords z = told("a=127,b=255,c=16511,d=999999");
+        NumberWords z = Made.told("a=127,b=255,c=16511,d=999999");
         due("pack of great numbers", z.pack(), 22);
         int[] want = {2, 127, 8, 1, 0, 1, 2, 128, 1, 1, 3, 128, 128, 1, 1, 4, 192, 131, 61, 1, 1, 0};
         exam.holds("packed great numbers", Arrays.equals(Say.tape(z), want));
-        NumberWords most = ofBytes(79);
+        NumberWords most = Made.ofBytes(79);
         due("pack of 400 bytes", most.pack(), 400);
         due("unpack of 400 bytes", most.unpack(), 100);
-        NumberWords more = ofBytes(80);
+        NumberWords more = Made.ofBytes(80);
         Say.to(more, "abc");
         due("pack of 401 bytes", more.pack(), -2);
         due("pack of 401 bytes: tape", more.count(10), 3);
@@ -841,25 +808,8 @@ public final class PromisesTest {
         due("pack of 401 bytes: words", more.count(0), 100);
     }
 
-    /** 100 words that are packed to 321 bytes and one more for each of the outputs of two bytes. */
-    private static NumberWords ofBytes(int longOutputs) {
-        NumberWords x = new NumberWords();
-        int left = longOutputs;
-        for (char one = 'a'; one <= 'd'; one++) {
-            StringBuilder list = new StringBuilder();
-            for (char two = 'a'; two <= 'y'; two++) {
-                boolean isLong = two > 'a' && two < 'y' && left > 0;
-                left -= isLong ? 1 : 0;
-                int number = isLong ? 200 : two == 'y' ? one - 'a' + 1 : 0;
-                list.append(two == 'a' ? "" : ",").append(one).append(two).append('=').append(number);
-            }
-            Say.to(x, list.toString()).list();
-        }
-        return x;
-    }
-
     private static void unpack() {
-        NumberWords x = told("z=1");
+        NumberWords x = Made.told("z=1");
         due("unpack", Say.to(x, ANIMALS_PACKED).unpack(), 4);
         due("unpack: tape", x.count(10), 0);
         due("unpack: acts", x.count(8), 2);
@@ -870,7 +820,7 @@ public final class PromisesTest {
         due("undo unpack: states", x.count(1), 2);
         due("unpack nothing", Say.to(x, 1, 0, 0).unpack(), 0);
         words("unpack nothing", x, "");
-        NumberWords y = full();
+        NumberWords y = Made.full();
         y.keep(0);
         due("pack 100", y.pack() > 0 ? 1 : 0, 1);
         due("unpack 100", y.unpack(), 100);
@@ -878,7 +828,7 @@ public final class PromisesTest {
     }
 
     private static void unpackFault(int place, int kind, int... bytes) {
-        NumberWords x = animals();
+        NumberWords x = Made.animals();
         String name = "unpack " + Arrays.toString(bytes);
         due(name, Say.to(x, bytes).unpack(), -2 - (8 * place + kind));
         due(name + ": tape", x.count(10), 0);
@@ -889,7 +839,7 @@ public final class PromisesTest {
 
     /** Unpacking asks the same of the hundredth machine as of the first, and ends soon whatever the bytes tell. */
     private static void unpackOften() {
-        NumberWords x = ofBytes(79);
+        NumberWords x = Made.ofBytes(79);
         for (int i = 0; i < 40; i++) {
             due("pack again", x.pack(), 400);
             due("unpack again", x.unpack(), 100);
@@ -968,7 +918,7 @@ public final class PromisesTest {
     }
 
     private static void count() {
-        NumberWords x = animals();
+        NumberWords x = Made.animals();
         int[] wants = {4, 6, 7, 2, 17, 0, 0, 0, 1, 0, 0, 8};
         for (int what = 0; what < wants.length; what++) {
             due("count(" + what + ")", x.count(what), wants[what]);
@@ -976,7 +926,7 @@ public final class PromisesTest {
         due("count(12)", x.count(12), NONE);
         due("count(-1)", x.count(-1), NONE);
         due("count(MIN)", x.count(Integer.MIN_VALUE), NONE);
-        NumberWords y = told("abcdefghij,bcdefghijk,cdefghijkl,defghijklm");
+        NumberWords y = Made.told("abcdefghij,bcdefghijk,cdefghijkl,defghijklm");
         due("beginnings", y.count(11), 41);
         due("states of words that share none but the end", y.count(1), 38);
     }

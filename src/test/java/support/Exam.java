@@ -1,14 +1,25 @@
 /** Counts answers that are not the ones that are due, and prints them. */
 final class Exam {
+    private static final int MOST_PRINTED = 40;
+    private static final int MOST_PRINTED_OF_ONE = 4;
     private int asked;
     private int wrong;
+    private int wrongHere;
+    private String heading = "";
+
+    /** What is asked from now on is printed under this heading, if it is wrong. */
+    void under(String newHeading) {
+        heading = newHeading;
+        wrongHere = 0;
+    }
 
     void due(String call, int got, int want) {
         asked++;
         if (got != want) {
             wrong++;
-            if (wrong <= 40) {
-                System.out.println(call + " answered " + got + ", due is " + want);
+            wrongHere++;
+            if (heading.isEmpty() ? wrong <= MOST_PRINTED : wrongHere <= MOST_PRINTED_OF_ONE) {
+                System.out.println(heading + call + " answered " + got + ", due is " + want);
             }
         }
     }
@@ -19,6 +30,10 @@ final class Exam {
 
     boolean failed() {
         return wrong > 0;
+    }
+
+    int asked() {
+        return asked;
     }
 
     /** Ends the test. */

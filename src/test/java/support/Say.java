@@ -21,6 +21,18 @@ final class Say {
         return x;
     }
 
+    static int put(NumberWords x, String word, int number) {
+        return to(x, word).put(number);
+    }
+
+    static int append(NumberWords x, String word, int number) {
+        return to(x, word).append(number);
+    }
+
+    static int state(NumberWords x, String beginning) {
+        return to(x, beginning).state();
+    }
+
     static int four(int[] bytes, int from) {
         int number = 0;
         for (int i = from; i < from + 4; i++) {
