@@ -158,6 +158,10 @@ public final class ActsTest extends Sentences {
             due("97 more", Say.to(x, Made.pairs(0, 97)).list(), 100);
             due("of 100", Say.to(x, "a=7,aa=5").list(), 100);
             due("a is 7", x.value(0), 7);
+            NumberWords y = Made.told("b=2");
+            y.undo();
+            Say.to(y, "a=1").list();
+            words("beside nothing that was undone", y, "a=1");
         });
         says("-2 - its FAULT, and but for the TAPE nothing happens", () -> {
             tapeAloneGoes("", Made::busy, NumberWords::list, -3);
@@ -192,6 +196,10 @@ public final class ActsTest extends Sentences {
             words("put", x, "a=999999 abcdefghij=0 cat=6 cut=5 dog=0");
             due("as told", x.count(1), 15);
             due("blanks are no letters", Say.put(x, "cow ", 1), NONE);
+            NumberWords y = Made.told("b=2");
+            y.undo();
+            Say.put(y, "a", 1);
+            words("beside nothing that was undone", y, "a=1");
         });
         says("-2, and nothing happens: it is there with that NUMBER", () -> {
             tapeAloneGoes("cat", Made::busy, x -> x.put(5), -2);
@@ -247,6 +255,11 @@ public final class ActsTest extends Sentences {
             NumberWords z = Made.full();
             Say.to(z, "dv").cut();
             due("the last of 100", z.count(0), 99);
+            NumberWords w = Made.told("a=1,b=2,c=3");
+            Say.to(w, "a").cut();
+            w.undo();
+            Say.to(w, "b").cut();
+            words("b in place of a", w, "a=1 c=3");
         });
         says("NONE, and nothing happens (but for the TAPE), if it is not there", () -> {
             for (String text : List.of("ca", "cats", "do", "a", "zebra", "abcdefghij")) {
@@ -485,10 +498,18 @@ public final class ActsTest extends Sentences {
         promise(12);
         says("The last ACT is UNDONE: how many more can be", () -> {
             NumberWords x = Made.busy();
+            due("states", x.count(1), 7);
+            due("states of the builder", x.count(7), 2);
             due("cut", x.undo(), 2);
             words("do is back", x, "car=3 cat=5 do=2 dog=7 ox=9");
+            due("states, undone", x.count(1), 7);
+            due("START, undone", x.count(3), 2);
+            due("do ends", x.about(Say.state(x, "do"), 0), 0);
             due("put", x.undo(), 1);
             words("ox is gone", x, "car=3 cat=5 do=2 dog=7");
+            due("states", x.count(1), 6);
+            due("open, as ahead of ox", x.count(6), 2);
+            due("closed, as ahead of ox", x.count(7), 2);
             due("list", x.undo(), 0);
             words("all are gone", x, "");
             Say.put(x, "a", 1);
@@ -560,6 +581,13 @@ public final class ActsTest extends Sentences {
                 due("another number", x.same(shelf), 0);
                 x.undo();
                 due("the same, undone", x.same(shelf), 1);
+                Say.put(x, "car", 4);
+                due("another number of the first", x.same(shelf), 0);
+                Say.put(x, "car", 3);
+                Say.put(x, "dog", 8);
+                due("another number of the last", x.same(shelf), 0);
+                Say.put(x, "dog", 7);
+                due("the same, put", x.same(shelf), 1);
                 Say.to(x, "dog").cut();
                 due("a word less", x.same(shelf), 0);
                 Say.put(x, "dot", 7);

@@ -265,12 +265,20 @@ public final class AnswersTest extends Sentences {
             aboutDue(ANIMALS, 5, 0, 1, 2, 3, 1, 2);
             aboutDue("xa,yxa,a", 5, 0, 1, 1, 1);
             aboutDue("abcdefghij", 5, 0, 1, 2, 3, 4, 5, 6, 7, 8, 9, 10);
+            NumberWords x = Made.told("ab,b");
+            due("of ab and b", x.about(2, 5), 1);
+            Say.to(x, "b").cut();
+            due("of ab alone", x.about(2, 5), 2);
             aboutDue("", 5, 0);
         });
         says("7: how many BEGINNINGS it has", () -> {
             aboutDue(ANIMALS, 7, 1, 1, 1, 3, 1, 1);
             aboutDue("xab,yab,ab", 7, 1, 3, 3, 2);
             aboutDue("", 7, 1);
+            NumberWords x = Made.told("ab,b,c,d");
+            due("with d", x.about(2, 7), 4);
+            Say.to(x, "d").cut();
+            due("without d", x.about(2, 7), 3);
         });
         says("NONE without these", () -> {
             for (int what = 0; what < 8; what++) {
@@ -674,6 +682,13 @@ public final class AnswersTest extends Sentences {
             y.pack();
             due("100", y.unpack(), 100);
             due("the same", y.same(0), 1);
+            for (int i = 0; i < 30; i++) {
+                y.pack();
+                due("100 again", y.unpack(), 100);
+            }
+            Say.to(y, 1).unpack();
+            due("behind one with a fault", Say.to(y, TWO_WORDS).unpack(), 2);
+            words("behind one with a fault", y, "a=5 ab=0");
         });
         says("-2 - its FAULT, and but for the TAPE nothing happens", () -> {
             tapeAloneGoes("", Made::busy, NumberWords::unpack, -3);

@@ -50,7 +50,6 @@ public final class PromisesTest {
         unpackFaults();
         unpackOften();
         count();
-        outputsAlone();
         exam.close("PromisesTest");
     }
 
@@ -929,22 +928,5 @@ public final class PromisesTest {
         NumberWords y = Made.told("abcdefghij,bcdefghijk,cdefghijkl,defghijklm");
         due("beginnings", y.count(11), 41);
         due("states of words that share none but the end", y.count(1), 38);
-    }
-
-    /** Fifty beginnings go on by the same letters to the same state: what tells them apart is one output alone. */
-    private static void outputsAlone() {
-        for (int step = 1; step <= 40; step++) {
-            NumberWords x = new NumberWords();
-            for (int from = 0; from < 50; from += 25) {
-                StringBuilder list = new StringBuilder();
-                for (int i = from; i < from + 25; i++) {
-                    String begin = "" + (char) ('a' + i / 7) + (char) ('a' + i % 7);
-                    list.append(i == from ? "" : ",").append(begin).append("a,");
-                    list.append(begin).append("b=").append(1 + i * step);
-                }
-                due("list", Say.to(x, list.toString()).list(), 2 * from + 50);
-            }
-            due("states of unlike outputs, step " + step, x.count(1), 1 + 8 + 50 + 1);
-        }
     }
 }

@@ -1,3 +1,4 @@
+import java.util.ArrayDeque;
 import java.util.Arrays;
 import java.util.List;
 
@@ -214,6 +215,12 @@ public final class TermsTest extends Sentences {
         says("Of one place the least", () -> {
             due("too long and the 101st", Say.to(Made.full(), "zzzzzzzzzzz").list(), -2 - 2);
             due("the same behind another", Say.to(Made.full(), "aa,zzzzzzzzzzz").list(), -2 - (8 * 3 + 2));
+            // what can't stand there, and would be too long, told already, too great or the 101st
+            listFault("ab abcdefghijk", 3, 1);
+            listFault("ab=1 abcdefghijk", 5, 1);
+            listFault("ab ab", 3, 1);
+            listFault("ab=1 1000000", 5, 1);
+            due("the 101st that can't stand there", Say.to(Made.full(), "aa zz").list(), -2 - (8 * 3 + 1));
         });
     }
 
@@ -277,6 +284,7 @@ public final class TermsTest extends Sentences {
             due("of unlike ends", Made.told("xab,xac,yab,yad").count(1), 6);
             due("26 beginnings", Made.told("ax,bx,cx,dx,ex,fx,gx,hx,ix,jx,kx,lx,mx,nx,ox,px,qx,rx,sx,tx,ux,vx,wx,xx,yx,zx")
                     .count(1), 3);
+            outputsAlone();
         });
         says("From a STATE an ARC goes for each letter with which one of its BEGINNINGS b goes on", () -> {
             NumberWords x = Made.animals();
@@ -343,6 +351,23 @@ public final class TermsTest extends Sentences {
                 }
             }
         });
+    }
+
+    /** Fifty beginnings go on by the same letters to the same state: what tells them apart is one output alone. */
+    private void outputsAlone() {
+        for (int step = 1; step <= 40; step++) {
+            NumberWords x = new NumberWords();
+            for (int from = 0; from < 50; from += 25) {
+                StringBuilder list = new StringBuilder();
+                for (int i = from; i < from + 25; i++) {
+                    String begin = "" + (char) ('a' + i / 7) + (char) ('a' + i % 7);
+                    list.append(i == from ? "" : ",").append(begin).append("a,");
+                    list.append(begin).append("b=").append(1 + i * step);
+                }
+                due("list", Say.to(x, list.toString()).list(), 2 * from + 50);
+            }
+            due("states of unlike outputs, step " + step, x.count(1), 1 + 8 + 50 + 1);
+        }
     }
 
     private static int along(NumberWords x, int rank) {
@@ -479,16 +504,18 @@ public final class TermsTest extends Sentences {
             actDue(x -> Say.to(x, 2, 7, 2, 1, 0, 1, 1, 0).unpack(), "a=7", 0);
         });
         says("The last 12 can be UNDONE", () -> {
-            NumberWords x = new NumberWords();
-            for (int i = 1; i <= 14; i++) {
-                Say.put(x, "a", i);
-                due("acts that can be undone", x.count(8), Math.min(i, 12));
+            for (int acts = 1; acts <= 60; acts++) {
+                NumberWords x = new NumberWords();
+                for (int i = 1; i <= acts; i++) {
+                    Say.put(x, "a", i);
+                    due("acts that can be undone", x.count(8), Math.min(i, 12));
+                }
+                for (int back = 1; back <= Math.min(acts, 12); back++) {
+                    due("undo", x.undo(), Math.min(acts, 12) - back);
+                    words(back + " undone of " + acts, x, acts == back ? "" : "a=" + (acts - back));
+                }
+                due("undo of one more", x.undo(), NONE);
             }
-            for (int i = 11; i >= 0; i--) {
-                due("undo", x.undo(), i);
-            }
-            due("undo", x.undo(), NONE);
-            words("what the second made", x, "a=2");
         });
         says("the last first", () -> {
             NumberWords x = new NumberWords();
@@ -501,6 +528,18 @@ public final class TermsTest extends Sentences {
             words("b is gone", x, "a=1");
             x.undo();
             words("a is gone", x, "");
+            // what was done in place of what was undone is undone ahead of what is older
+            ArrayDeque<Integer> past = new ArrayDeque<>(List.of(-1));
+            for (int i = 0; i < 100; i++) {
+                if (i % 7 < 4 || past.size() < 5) {
+                    Say.put(x, "a", i);
+                    past.addLast(i);
+                } else {
+                    x.undo();
+                    past.removeLast();
+                }
+                due("after " + i + " steps", Say.to(x, "a").number(), past.getLast());
+            }
         });
         says("(the BUILDER, too)", () -> {
             NumberWords x = Made.busy();
@@ -513,6 +552,14 @@ public final class TermsTest extends Sentences {
             due("behind its last word alone", Say.append(x, "d", 1), -2);
             x.finish();
             words("finished again", x, "ab=4 b=4 cb=1 d=1");
+            NumberWords y = new NumberWords();
+            Say.append(y, "abc", 1);
+            Say.put(y, "z", 1);
+            due("abc and b", Say.append(y, "b", 1), 5);
+            y.undo();
+            due("words as ahead of z", y.count(5), 1);
+            due("open as ahead of z", y.count(6), 4);
+            due("closed as ahead of z", y.count(7), 0);
         });
         says("SHELVES 0 to 2: THE MACHINE's WORDS are KEPT", () -> {
             for (int shelf = 0; shelf < 3; shelf++) {
@@ -712,6 +759,9 @@ public final class TermsTest extends Sentences {
             piecesDue(y, "abcd", 1, 3, 2, 0, 1);
             piecesDue(y, "xabcd", 0, 0, -2, -2, 0);
             piecesDue(y, "abxab", 1, 2, -2, -2, 0);
+            NumberWords z = Made.told("abcdefghij=5,d=7");
+            piecesDue(z, "abcdefghijd", 2, 11, 2, 12, 1);
+            piecesDue(z, "abcdefghijx", 1, 10, -2, -2, 0);
         });
         says("FEWEST; BEST: the greatest sum of NUMBERS; WAYS", () -> {
             NumberWords x = Made.told("a=1,aa=0,aaa=9,ab=7,b=3");
@@ -758,6 +808,8 @@ public final class TermsTest extends Sentences {
                 System.arraycopy(start, 1, want, 1, start.length - 1);
                 System.arraycopy(new int[] {2, 1, 0, 1, 1, 0}, 0, want, start.length, 6);
                 bytes("a=" + start[0], x, want);
+                due("unpacked a=" + start[0], x.unpack(), 1);
+                words("unpacked", x, "a=" + start[0]);
             }
         });
         says("how many STATES; START", () -> {
@@ -867,12 +919,15 @@ public final class TermsTest extends Sentences {
             packFault(6, 2, most);
             packFault(2, 2, 1, 0, 54);
             packFault(2, 2, 1, 0, 55);
+            packFault(2, 2, 1, 0, 127);
+            packFault(2, 2, 1, 0, 128, 1);
         });
         says("a letter 1 to 26", () -> {
             unpacked(1, 2, 0, 2, 1, 0, 1, 1, 0);
             unpacked(1, 2, 0, 2, 26, 0, 1, 1, 0);
             packFault(3, 2, 2, 0, 2, 0, 0, 1, 1, 0);
             packFault(3, 2, 2, 0, 2, 27, 0, 1, 1, 0);
+            packFault(3, 2, 2, 0, 2, 127);
             packFault(3, 2, 2, 0, 2, 129, 1, 0, 1, 1, 0);
         });
         says("and above the one ahead", () -> {
@@ -887,6 +942,7 @@ public final class TermsTest extends Sentences {
             packFault(5, 2, 2, 0, 2, 1, 0, 2, 1, 0);
             packFault(5, 2, 2, 0, 2, 1, 0, 255, 255, 127, 1, 0);
             packFault(5, 2, 1, 0, 2, 1, 0, 1);
+            packFault(5, 2, 1, 0, 2, 1, 0, 127);
         });
         says("3 bytes behind all (the first)", () -> {
             packFault(3, 3, 1, 0, 0, 0);
@@ -921,8 +977,13 @@ public final class TermsTest extends Sentences {
             unpacked(1, chain(10));
             int[] eleven = chain(11);
             packFault(eleven.length, 4, eleven);
-            int[] hundred = chain(90);
-            packFault(hundred.length, 4, hundred);
+            int[] ninety = chain(90);
+            packFault(ninety.length, 4, ninety);
+            // ten to the tenth beginnings, all of which go on too far or to no word
+            int[] tooFar = manyArcs(11);
+            packFault(tooFar.length, 4, tooFar);
+            int[] noWord = manyArcs(10);
+            packFault(noWord.length, 4, noWord);
         });
         says("more than 100 WORDS", () -> {
             unpacked(100, fan(25, false));
@@ -997,6 +1058,19 @@ public final class TermsTest extends Sentences {
             for (int i = 0; i < 21; i++) {
                 System.arraycopy(new int[] {i + 1, 0, i % 6}, 0, bytes, at, 3);
                 at += 3;
+            }
+        }
+        return bytes;
+    }
+
+    /** So many states from each of which eleven arcs go to the next; from the last none goes. */
+    private static int[] manyArcs(int states) {
+        int[] bytes = new int[2 + states * 34 + 1];
+        bytes[0] = states + 1;
+        for (int s = 0; s < states; s++) {
+            bytes[2 + 34 * s] = 22;
+            for (int i = 0; i < 11; i++) {
+                System.arraycopy(new int[] {i + 1, 0, s + 1}, 0, bytes, 3 + 34 * s + 3 * i, 3);
             }
         }
         return bytes;
