@@ -37,6 +37,9 @@ public final class TermsTest extends Sentences {
                     "a-b", " a", "a ")) {
                 due("put \"" + other + "\"", Say.put(x, other, 7), NONE);
             }
+            for (String other : List.of("A", "Z", "@", "[", "`", "{", "\u00e1", "\0", "abcdefghijk")) {
+                holds("\"" + other + "\" is no list", Say.to(x, other).list() < -2);
+            }
             due("words", x.count(0), 4);
         });
         says("each a NUMBER (0 to 999999)", () -> {
@@ -265,6 +268,10 @@ public final class TermsTest extends Sentences {
             NumberWords x = Made.told("xa,xab,ya,yab,za,zabc");
             holds("x and y", Say.state(x, "x") == Say.state(x, "y"));
             holds("x and z", Say.state(x, "x") != Say.state(x, "z"));
+            for (String list : List.of("xa,yb", "x,xa,ya", "xa,xab,yab", "xab,yac", "xab,xb,yab,yc", "xa,xb,ya", "xa,yaa")) {
+                NumberWords other = Made.told(list);
+                holds("other rests: " + list, Say.state(other, "x") != Say.state(other, "y"));
+            }
             due("words left of x", x.about(Say.state(x, "x"), 1), 2);
             due("the longest left of z", x.about(Say.state(x, "z"), 2), 3);
             due("the shortest left of xab", x.about(Say.state(x, "xab"), 3), 0);
