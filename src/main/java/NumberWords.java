@@ -28,6 +28,7 @@ public final class NumberWords {
     private static final int RULES = 5;
     private static final int RULE_HERE = 3;
     private static final long NO_LETTERS = -1L;
+    private static final long BEHIND_ALL_WORDS = 1L << LETTER_BITS * MOST_LETTERS;
 
     private final Tape tape = new Tape();
     private final Book words = new Book();
@@ -213,8 +214,8 @@ public final class NumberWords {
         int i = 0;
         int j = 0;
         while (i < words.size || j < there.size) {
-            long here = i < words.size ? words.words[i] : Long.MAX_VALUE;
-            long other = j < there.size ? there.words[j] : Long.MAX_VALUE;
+            long here = i < words.size ? words.words[i] : BEHIND_ALL_WORDS;
+            long other = j < there.size ? there.words[j] : BEHIND_ALL_WORDS;
             int number = joinedNumber(here <= other ? words.numbers[i] : NONE,
                     other <= here ? there.numbers[j] : NONE, how, rule);
             if (number != NONE && !joined.addLast(Math.min(here, other), number)) {
@@ -1343,6 +1344,9 @@ public final class NumberWords {
 
     /** Cuts the tape, a text of letters, into words of a book. */
     private static final class Cutting {
+        /** Below every sum, also of as many pieces that count -1 each as there are letters. */
+        private static final int NOT_REACHED = -MOST_TEXT - 1;
+
         private final Tape tape;
         private final Book book;
         private final int[] found = new int[MOST_TEXT + 1];
@@ -1390,10 +1394,10 @@ public final class NumberWords {
         /** The greatest sum, or the fewest pieces (as the greatest sum of pieces that count -1 each). */
         private int spread(boolean byNumbers) {
             int end = Math.min(tape.size, MOST_TEXT);
-            Arrays.fill(found, Integer.MIN_VALUE);
+            Arrays.fill(found, NOT_REACHED);
             found[0] = 0;
             for (int from = 0; from < end; from++) {
-                for (int length = 1; length <= MOST_LETTERS && found[from] != Integer.MIN_VALUE; length++) {
+                for (int length = 1; length <= MOST_LETTERS && found[from] != NOT_REACHED; length++) {
                     int place = pieceAt(from, length);
                     if (place != NONE && from + length <= MOST_TEXT) {
                         int sum = found[from] + (byNumbers ? book.numbers[place] : -1);
@@ -1401,7 +1405,7 @@ public final class NumberWords {
                     }
                 }
             }
-            if (found[end] == Integer.MIN_VALUE) {
+            if (found[end] == NOT_REACHED) {
                 return REFUSED;
             }
             return byNumbers ? found[end] : -found[end];

@@ -116,8 +116,8 @@ public final class LanguageTest {
         while (calls.find()) {
             library.add(calls.group());
         }
-        library.removeAll(Set.of("Arrays.fill", "System.arraycopy", "Math.min", "Math.max", "Integer.MIN_VALUE",
-                "Long.MAX_VALUE"));
+        // rule 4 lists functions of Integer, Long and Math, but no constant of theirs
+        library.removeAll(Set.of("Arrays.fill", "System.arraycopy", "Math.min", "Math.max"));
         exam.holds("no more of the library: " + library, library.isEmpty());
         exam.holds("no object made in a method but the constructors: new stands in fields and constructors alone",
                 !Pattern.compile("(?m)^ {8,}(?!private)(?!.*\\[\\w+\\] = new Book\\(\\);).*\\bnew\\b").matcher(code)

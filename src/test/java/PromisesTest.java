@@ -396,6 +396,20 @@ public final class PromisesTest {
         due("join, 101 in all: words", y.word(99, 0), 26);
         due("join, met", y.join(0, 1, 3), 99);
         due("join, less", y.join(0, 2, 3), 0);
+        joinBehindAll();
+    }
+
+    /** The last word that there can be stands here, there, or in both, behind the last one of the other. */
+    private static void joinBehindAll() {
+        for (String[] pair : new String[][] {{"zzzzzzzzzz=5", "a=1"}, {"a=1", "zzzzzzzzzz=5"},
+            {"a=1,zzzzzzzzzz=5", "zzzzzzzzzz=4"}}) {
+            NumberWords x = Made.told(pair[0]);
+            x.keep(2);
+            x.undo();
+            Say.to(x, pair[1]).list();
+            due("join of " + pair[0] + " to " + pair[1], x.join(2, 0, 2), 2);
+            words("join of " + pair[0] + " to " + pair[1], x, "a=1 zzzzzzzzzz=5");
+        }
     }
 
     private static void undo() {
@@ -772,6 +786,8 @@ public final class PromisesTest {
             ways[i] = ways[i - 1] + (i > 1 ? ways[i - 2] : 0) + (i > 9 ? ways[i - 10] : 0);
         }
         piecesDue(z, repeat("a", 60), 6, 60, 6, 29999970, (int) (ways[60] % 1000003));
+        piecesDue(Made.told("a"), repeat("a", 60), 60, 60, 60, 0, 1);
+        piecesDue(Made.told("a"), repeat("a", 59) + "b", 59, 59, -2, -2, 0);
         due("pieces, 61 letters", Say.to(z, repeat("a", 61)).pieces(0), NONE);
         due("pieces, nothing", Say.to(z, "").pieces(0), NONE);
         due("pieces, a blank", Say.to(z, "a a").pieces(0), NONE);
